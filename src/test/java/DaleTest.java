@@ -147,6 +147,19 @@ public final class DaleTest {
         text("b3 0 9;", -11, 5);
         text("b2 1;f0 1 01 1;", 2, -1);
         text("b2 1;f0 1 0 1 ; f 1 1 0 1 ;", 3, -1);
+        behind("b2 1;x", "b2 1", -11, 4);
+        behind("b2 11;", "b2 1", -11, 4);
+        behind("b2  ;", "b2 ", -11, 3);
+        behind("b2 1    x", "b2 1;", 1, -1);
+    }
+
+    // Nothing of an earlier text counts in a later one.
+    private static void behind(String first, String text, int dale, int fault) {
+        BeckTalk x = Check.feed(new BeckTalk(), first);
+        x.dale();
+        Check.feed(x, text);
+        check.due("dale() of '" + text + "' behind '" + first + "'", x.dale(), dale);
+        check.due("fault() of '" + text + "' behind '" + first + "'", x.fault(), fault);
     }
 
     // Promise 3
@@ -261,6 +274,8 @@ public final class DaleTest {
         check.due("EVEN by a dam, without flow", x.told(11), 2 + 4 + 32 + 64 + 256);
         x.smooth(7);
         check.due("EVEN, smoothed", x.told(11), 2 + 4 + 32 + 64 + 128);
+        check.due("EVEN but for word 0", Check.with("b3 6;f0 1 4 1;").told(11), 0);
+        check.due("EVEN but for the last word", Check.with("b3 6;f0 1 2 1;").told(11), 0);
     }
 
     private static void toldLongest() {
@@ -300,6 +315,9 @@ public final class DaleTest {
         check.due("two farms in an hour", x.told(8), 3);
         x.hour(1);
         check.due("the same two go on", x.told(8), 4);
+        Check.feed(x, "b3 9;");
+        x.dale();
+        check.due("another dale has none", x.told(8), 0);
     }
 
     // Promise 6
@@ -382,6 +400,14 @@ public final class DaleTest {
         check.due("logged(-1, 0)", x.logged(-1, 0), Check.NONE);
         check.due("logged(2147483647, 3)", x.logged(Integer.MAX_VALUE, 3), Check.NONE);
         check.due("logged(-2147483648, 3)", x.logged(Integer.MIN_VALUE, 3), Check.NONE);
+        String ahead = Check.allButUndoing(x);
+        x.say(1, 8);
+        x.say(1, 7);
+        x.hour(2);
+        x.undo();
+        x.undo();
+        x.undo();
+        check.same("the log, undone", Check.allButUndoing(x), ahead);
         BeckTalk y = Check.with(Check.FIVE);
         y.say(2, 0);
         y.hour(1);

@@ -286,7 +286,7 @@ public final class DoneTest {
         check.due("undo() of none", x.undo(), Check.NOT);
         String[] was = new String[20];
         for (int n = 0; n < 20; n++) {
-            was[n] = rest(x);
+            was[n] = Check.allButUndoing(x);
             x.say(1 + n % 5, n % 5);
             if (n % 3 == 2) {
                 x.undo();
@@ -296,15 +296,10 @@ public final class DoneTest {
         }
         for (int n = 19; n >= 4; n--) {
             check.due("undo()", x.undo(), n - 4);
-            check.same("what is undone to " + n, rest(x), was[n]);
+            check.same("what is undone to " + n, Check.allButUndoing(x), was[n]);
         }
         check.due("undo() of none", x.undo(), Check.NOT);
-        check.same("the oldest are lost", rest(x), was[4]);
-    }
-
-    // All but how many can be undone, which undoing itself changes.
-    private static String rest(BeckTalk x) {
-        return Check.all(x).replaceFirst("^((-?\\d+ ){16})-?\\d+ ", "$1");
+        check.same("the oldest are lost", Check.allButUndoing(x), was[4]);
     }
 
     private static void undoEach() {

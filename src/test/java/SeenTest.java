@@ -60,6 +60,8 @@ public final class SeenTest {
         check.due("falls(1), laughter and its like", two.falls(1), 11);
         check.due("tryNext(), laughter and its like", two.tryNext(), Check.NONE);
         check.due("falls(2) without a dale", new BeckTalk().falls(2), Check.OUTSIDE);
+        check.due("falls(0) without a dale", new BeckTalk().falls(0), 0);
+        check.due("falls(1) without a dale", new BeckTalk().falls(1), Check.NONE);
         onlyOne(0, "b5 1;", new int[] {0, 0, 4, 4, 1, 1});
         onlyOne(30, "b5 1;", new int[] {0, 4, 4, 0});
         onlyOne(41, "b5 1;", new int[] {0, 1, 1, 1});
