@@ -41,6 +41,7 @@ public final class BeckTalk {
     private final Reader reader;
     private final Dale land;
     private final Dale draft;
+    // Not begun ahead of the first dale: without one there is no farm to ask it for.
     private final World now;
     private final World ahead;
     private final Past past;
@@ -65,7 +66,6 @@ public final class BeckTalk {
         imageSeeds = new int[MOST_IMAGES];
         guess = new Guess();
         book = new Book();
-        now.begin(land);
     }
 
     // ---- the dale
