@@ -42,12 +42,12 @@ public final class RefusedTest {
         each("the estuary alone", "b5 3;", "hour(3) keep(0) rain(2) ", WRONG_ANYWHERE + "farm(1,0)=UNKNOWN farm(0,6)=OUTSIDE talk(0,0)=UNKNOWN say(1,0)=UNKNOWN "
             + "say(0,5)=UNKNOWN say(0,0)=NOT dam(1,true)=UNKNOWN dam(0,true)=NOT smooth(1)=UNKNOWN smooth(0)=NOT hush(0)=UNKNOWN down(1)=UNKNOWN "
             + "privately(2)=UNKNOWN dams(0,2)=UNKNOWN goBack(1)=NOT");
-        each("all full", Check.FIVE, "keep(0) 12*say(5,4) 150*hour(60) hour(60) seed(12) 6*see(1,1) 15*write(1,4) frost(true) 10*rain(8) ",
+        each("all full", Check.FIVE, "keep(0) 2*say(5,4) 150*hour(60) hour(60) seed(12) 6*see(1,1) 15*write(1,4) 3*feed(98) 12*say(5,4) frost(true) ",
             UNKNOWN_OF_FIVE + "hour(1)=FULL hour(60)=FULL hour(0)=OUTSIDE hour(61)=OUTSIDE drift(1)=FULL drift(60)=FULL drift(0)=OUTSIDE drift(61)=OUTSIDE "
             + "see(0,0)=FULL see(4,4)=FULL write(0,0)=FULL write(5,NONE)=FULL say(0,0)=NOT goBack(1)=NOT");
-        each("twelve go", Check.FIVE, "6*say(5,4) hour(1) keep(1) 6*say(3,1) ", "say(1,0)=FULL say(5,4)=FULL say(0,0)=NOT say(0,5)=UNKNOWN say(6,0)=UNKNOWN "
+        each("twelve go", Check.FIVE, "6*say(5,4) hour(1) see(4,1) write(1,4) feed(98) keep(1) 6*say(3,1) ", "say(1,0)=FULL say(5,4)=FULL say(0,0)=NOT say(0,5)=UNKNOWN say(6,0)=UNKNOWN "
             + "talk(12,0)=UNKNOWN hush(12)=UNKNOWN where(12,0,0)=UNKNOWN talk(11,4)=OUTSIDE where(11,101,0)=OUTSIDE");
-        each("a full text", null, "<b2_1;f0_1_3_1;> dale() say(1,0) hour(1) keep(1) say(1,1) <b3_4;f0_2_4_1;> 226*feed(32) ",
+        each("a full text", null, "<b2_1;f0_1_3_1;> dale() say(1,0) hour(1) see(1,0) write(0,1) keep(1) say(1,1) <b3_4;f0_2_4_1;> 226*feed(32) ",
             "feed(32)=FULL feed(98)=FULL feed(255)=FULL feed(0)=FULL feed(-1)=OUTSIDE feed(256)=OUTSIDE hour(0)=OUTSIDE goBack(0)=NOT");
         check.end();
     }
