@@ -84,6 +84,8 @@ public final class SeenBoundsTest {
         // Of 0 41 .. 48 by word 0: 0 1 .. 8; of 0 20 .. 27 by word 8: 8 0 .. 7; of 18 30 48 by word 1: 0 7 8.
         holds("section 3: TRY, nine WORDS", "b9 1;", "see(8,8) falls(0)=9 tryNext()=0 tear() see(0,0) falls(0)=9 tryNext()=8 tear() see(0,8) falls(0)=3 "
             + "tryNext()=1");
+        // Of 0 23 by word 4 alone: 4 3; of 0 41 by word 0 alone: 0 1.
+        holds("section 3: TRY, one of two does nothing", ALONE, "see(0,0) see(3,3) falls(0)=2 tryNext()=4 tear() see(4,4) see(1,1) falls(0)=2 tryNext()=0");
         holds("section 3: TRY, six SEEN", ALONE, "6*see(4,3) tryNext()=0");
     }
 
